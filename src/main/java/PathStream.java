@@ -30,15 +30,15 @@ public final class PathStream {
 
     private final int[] tape = new int[TAPE_ROOM];
     private int tapeLength;
-    private final TextReader reader = new TextReader();
     private final int[] refused = new int[6];
     private final Draws draws = new Draws();
     private boolean told;
     private Plan plan = new Plan();
     // A text with a FAULT must leave all as it is, so it is read into this one first.
     private Plan spare = new Plan();
-    private final World now = new World();
-    private final World trial = new World();
+    private final TextReader reader = new TextReader(tape, spare);
+    private final World now = new World(plan);
+    private final World trial = new World(plan);
     private final World[] before = new World[MOST_ACTS];
     private int nextAct;
     private int actCount;
@@ -81,7 +81,7 @@ public final class PathStream {
     }
 
     public int stream() {
-        reader.readText(tape, tapeLength, spare);
+        reader.readText(tapeLength, spare);
         tapeLength = 0;
         if (reader.faultKind != 0) {
             return refuse(REFUSED_STREAM);
@@ -329,7 +329,16 @@ public final class PathStream {
     }
 
     public int delays(int path) {
-        return isPath(path) ? delaysLeft(path, lastMetTick()) : NONE;
+        if (!isPath(path)) {
+            return NONE;
+        }
+        int come = ticksComing(lastMetTick());
+        foresee(path, come);
+        return delaysLeft(come);
+    }
+
+    private int ticksComing(int most) {
+        return Math.min(most, LAST_TICK - now.tick);
     }
 
     private int lastMetTick() {
@@ -340,29 +349,29 @@ public final class PathStream {
         return last;
     }
 
-    private int delaysLeft(int path, int ticksSeen) {
-        int bits = 0;
-        int come = Math.min(ticksSeen, LAST_TICK - now.tick);
+    private void foresee(int path, int come) {
         for (int delay = 1; delay <= LONGEST_DELAY; delay++) {
-            foresee(path, delay, come);
+            int[] row = foreseen[delay];
+            trial.copyFrom(now);
+            trial.routes[path].delay = delay;
+            for (int n = 0; n <= come && n <= MET_TICKS; n++) {
+                if (n > 0) {
+                    trial.step(null);
+                }
+                row[2 * n] = trial.needed;
+                row[2 * n + 1] = trial.receiver.read;
+            }
+        }
+    }
+
+    private int delaysLeft(int come) {
+        int bits = 0;
+        for (int delay = 1; delay <= LONGEST_DELAY; delay++) {
             if (fitsMet(foreseen[delay], come)) {
                 bits |= 1 << delay;
             }
         }
         return bits;
-    }
-
-    private void foresee(int path, int delay, int come) {
-        int[] row = foreseen[delay];
-        trial.copyFrom(now);
-        trial.routes[path].delay = delay;
-        for (int n = 0; n <= come && n <= MET_TICKS; n++) {
-            if (n > 0) {
-                trial.step(null);
-            }
-            row[2 * n] = trial.needed;
-            row[2 * n + 1] = trial.receiver.read;
-        }
     }
 
     private boolean fitsMet(int[] row, int come) {
@@ -378,11 +387,12 @@ public final class PathStream {
         if (!isPath(path) || what < 0 || what > 2 || now.tick >= LAST_TICK) {
             return NONE;
         }
-        int bits = delaysLeft(path, MET_TICKS);
+        int come = ticksComing(MET_TICKS);
+        foresee(path, come);
+        int bits = delaysLeft(come);
         if (bits == 0) {
             return NONE;
         }
-        int come = Math.min(MET_TICKS, LAST_TICK - now.tick);
         int best = 2;
         int fewest = mostAlike(bits, best);
         for (int place = 3; place < 2 * (come + 1); place++) {
@@ -445,7 +455,7 @@ public final class PathStream {
 
     private void beginAct() {
         if (before[nextAct] == null) {
-            before[nextAct] = new World();
+            before[nextAct] = new World(plan);
         }
         before[nextAct].copyFrom(now);
         nextAct = (nextAct + 1) % MOST_ACTS;
@@ -671,24 +681,22 @@ public final class PathStream {
         }
 
         private static int joinedBy(int sign, int a, int b) {
+            long result = 0;
             switch (sign) {
-                case ADD: return limited((long) a + b);
-                case LESS_BY: return limited((long) a - b);
-                case TIMES: return limited((long) a * b);
-                case DIVIDE: return b == 0 ? 0 : limited(Math.floorDiv((long) a, (long) b));
-                case REST: return b == 0 ? 0 : limited(Math.floorMod((long) a, (long) b));
-                case MIN: return Math.min(a, b);
-                case MAX: return Math.max(a, b);
-                case BELOW: return a < b ? 1 : 0;
-                case ABOVE: return a > b ? 1 : 0;
-                case SAME: return a == b ? 1 : 0;
-                case AND: return a & b;
-                default: return a | b;
+                case ADD: result = (long) a + b; break;
+                case LESS_BY: result = (long) a - b; break;
+                case TIMES: result = (long) a * b; break;
+                case DIVIDE: result = b == 0 ? 0 : Math.floorDiv(a, b); break;
+                case REST: result = b == 0 ? 0 : Math.floorMod(a, b); break;
+                case MIN: result = a < b ? a : b; break;
+                case MAX: result = a > b ? a : b; break;
+                case BELOW: result = a < b ? 1 : 0; break;
+                case ABOVE: result = a > b ? 1 : 0; break;
+                case SAME: result = a == b ? 1 : 0; break;
+                case AND: result = a & b; break;
+                default: result = a | b; break;
             }
-        }
-
-        private static int limited(long value) {
-            return (int) Math.max(-LIMIT, Math.min(LIMIT, value));
+            return (int) (result > LIMIT ? LIMIT : result < -LIMIT ? -LIMIT : result);
         }
     }
 
@@ -750,7 +758,7 @@ public final class PathStream {
         private final int[] ownWords = new int[WORDS];
         int faultKind;
         int faultPlace;
-        private int[] text;
+        private final int[] text;
         private int length;
         private int at;
         private Plan plan;
@@ -765,7 +773,10 @@ public final class PathStream {
         private int value;
         private int word;
 
-        TextReader() {
+        TextReader(int[] tape, Plan target) {
+            text = tape;
+            plan = target;
+            formula = target.drops;
             int packed = 0;
             int letters = 0;
             int words = 0;
@@ -787,8 +798,7 @@ public final class PathStream {
             return packed >> LETTER_BITS * k & 31;
         }
 
-        void readText(int[] tape, int tapeLength, Plan target) {
-            text = tape;
+        void readText(int tapeLength, Plan target) {
             length = tapeLength;
             at = 0;
             plan = target;
@@ -1559,7 +1569,8 @@ public final class PathStream {
         int lostNow;
         boolean firstDropped;
 
-        World() {
+        World(Plan told) {
+            plan = told;
             for (int path = 0; path < MOST_PATHS; path++) {
                 routes[path] = new Route();
             }
@@ -1680,7 +1691,9 @@ public final class PathStream {
                 failLate(path);
             }
             flight.tidy(tick);
-            sendAll(draws);
+            if (sendPieces(draws)) {
+                penalise(draws);
+            }
             tick++;
         }
 
@@ -1722,24 +1735,37 @@ public final class PathStream {
         }
 
         private void receive() {
+            int right = 0;
+            int wrong = 0;
             for (int row = 0; row < flight.count; row++) {
                 if (flight.arrivesAt[row] == tick) {
                     receiver.arrive(flight.first[row], flight.size[row], flight.wrong[row]);
+                    right += flight.wrong[row] ? 0 : 1;
+                    wrong += flight.wrong[row] ? 1 : 0;
                 }
             }
             int missing = receiver.missing();
             int amount = amountToRead(missing);
             receiver.read += amount;
-            boolean answered = false;
+            if (right > 0) {
+                answerRight(missing);
+            } else if (amount > 0) {
+                answerOnFirst(missing);
+            }
+            if (wrong > 0) {
+                buryWrong();
+            }
+        }
+
+        private void answerRight(int missing) {
             for (int row = 0; row < flight.count; row++) {
                 if (flight.arrivesAt[row] == tick && !flight.wrong[row]) {
                     answer(flight.path[row], flight.number[row], missing);
-                    answered = true;
                 }
             }
-            if (!answered && amount > 0) {
-                answerOnFirst(missing);
-            }
+        }
+
+        private void buryWrong() {
             for (int row = 0; row < flight.count; row++) {
                 if (flight.arrivesAt[row] == tick && flight.wrong[row]) {
                     bury(flight.path[row]);
@@ -1773,7 +1799,7 @@ public final class PathStream {
         }
 
         private void failLate(int path) {
-            int row = flight.firstOn(path);
+            int row = routes[path].flying > 0 ? flight.firstOn(path) : NONE;
             if (row == NONE || tick - flight.sentAt[row] < waitOn(path)) {
                 return;
             }
@@ -1787,17 +1813,17 @@ public final class PathStream {
             }
         }
 
-        private void sendAll(Draws draws) {
+        // Whether there is no piece any more.
+        private boolean sendPieces(Draws draws) {
             again.tidy(needed);
             int limit = Math.min(edge, plan.length);
             for (int k = 0; k < Flight.ROOM && flight.count < Flight.ROOM; k++) {
                 if (again.count == 0 && sent >= limit) {
-                    penalise(draws);
-                    return;
+                    return true;
                 }
                 int path = pick(NONE);
                 if (path == NONE) {
-                    return;
+                    return false;
                 }
                 if (again.count > 0) {
                     send(path, again.first[0], again.size[0], draws);
@@ -1808,12 +1834,13 @@ public final class PathStream {
                     sent += size;
                 }
             }
+            return false;
         }
 
-        // Behind a PENALTY nothing can be sent in this TICK: there is no piece still.
+        // Behind a PENALTY there is no piece still, so the TICK sends no more.
         private void penalise(Draws draws) {
-            int row = flight.firstWith(needed);
-            if (sent != edge || sent >= plan.length || row == NONE) {
+            int row = sent == edge && sent < plan.length ? flight.firstWith(needed) : NONE;
+            if (row == NONE) {
                 return;
             }
             int slow = flight.path[row];
@@ -1829,9 +1856,15 @@ public final class PathStream {
         private int pick(int butThis) {
             int best = NONE;
             int least = 0;
+            facts[Formula.TICK] = tick;
             for (int path = 0; path < plan.paths; path++) {
-                if (path != butThis && routes[path].hasRoom()) {
-                    int value = worthOf(path);
+                Route route = routes[path];
+                if (path != butThis && route.hasRoom()) {
+                    facts[Formula.PATH] = path;
+                    facts[Formula.DELAY] = route.delay;
+                    facts[Formula.CWND] = route.cwnd;
+                    facts[Formula.FLYING] = route.flying;
+                    int value = plan.picks.isTold() ? plan.picks.valueBy(facts) : route.delay;
                     if (best == NONE || value < least) {
                         best = path;
                         least = value;
@@ -1839,19 +1872,6 @@ public final class PathStream {
                 }
             }
             return best;
-        }
-
-        private int worthOf(int path) {
-            Route route = routes[path];
-            if (!plan.picks.isTold()) {
-                return route.delay;
-            }
-            facts[Formula.TICK] = tick;
-            facts[Formula.PATH] = path;
-            facts[Formula.DELAY] = route.delay;
-            facts[Formula.CWND] = route.cwnd;
-            facts[Formula.FLYING] = route.flying;
-            return plan.picks.valueBy(facts);
         }
 
         private void send(int path, int first, int size, Draws draws) {
