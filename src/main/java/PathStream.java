@@ -198,7 +198,7 @@ public final class PathStream {
         if (k < now.receiver.read) {
             return 2;
         }
-        return now.receiver.has[k] ? 1 : 0;
+        return now.receiver.has[k];
     }
 
     public int refusals(int cause) {
@@ -1233,7 +1233,8 @@ public final class PathStream {
         private static final int NO_ROOM = 2;
         private static final int TAKEN_ALREADY = 3;
 
-        final boolean[] has = new boolean[MOST_BYTES];
+        // 1 for a byte that is TAKEN.
+        final byte[] has = new byte[MOST_BYTES];
         final int[] refused = new int[4];
         int length;
         int window;
@@ -1242,7 +1243,7 @@ public final class PathStream {
 
         void begin(Plan plan) {
             for (int k = 0; k < MOST_BYTES; k++) {
-                has[k] = false;
+                has[k] = 0;
             }
             for (int k = 0; k < refused.length; k++) {
                 refused[k] = 0;
@@ -1275,8 +1276,8 @@ public final class PathStream {
         private int take(int first, int size) {
             int fresh = 0;
             for (int k = first; k < first + size && k < MOST_BYTES; k++) {
-                if (!has[k]) {
-                    has[k] = true;
+                if (has[k] == 0) {
+                    has[k] = 1;
                     fresh++;
                 }
             }
@@ -1286,7 +1287,7 @@ public final class PathStream {
 
         int missing() {
             int k = read;
-            while (k < length && has[k]) {
+            while (k < length && has[k] != 0) {
                 k++;
             }
             return k;
@@ -1317,8 +1318,10 @@ public final class PathStream {
             System.arraycopy(other.size, 0, size, 0, count);
             System.arraycopy(other.sentAt, 0, sentAt, 0, count);
             System.arraycopy(other.arrivesAt, 0, arrivesAt, 0, count);
-            System.arraycopy(other.wrong, 0, wrong, 0, count);
-            System.arraycopy(other.flies, 0, flies, 0, count);
+            for (int row = 0; row < count; row++) {
+                wrong[row] = other.wrong[row];
+                flies[row] = other.flies[row];
+            }
         }
 
         void add(int onPath, int withNumber, int from, int bytes, int tick, int arrival, boolean isWrong) {
