@@ -179,6 +179,18 @@ public final class PromiseRuns {
         }
         due("edge", x.has(6), 10);
         due("undo", x.undo(), false);
+        begin(ONE + "path b delay 1;join b at 0 token 1;drops from=5;");
+        x.ticks(3);
+        x.kill(0);
+        due("taken", x.octet(0), 2);
+        due("again", x.has(11), 1);
+        due("joins", x.refusals(0), 1);
+        tell(TWO);
+        due("taken", x.octet(0), 0);
+        due("again", x.has(11), 0);
+        due("joins", x.refusals(0), 0);
+        due("dead", x.path(0, 2), 0);
+        due("bytes", x.later(3, 4), 10);
         due("statements", tell("stream 10 unit 5 window 10 key 0;" + "loss 3;".repeat(39)), 40);
     }
 
@@ -282,6 +294,8 @@ public final class PromiseRuns {
         behind(ONE, "picks min(1);", 1, 11);
         behind(ONE, "picks min 1,2);", 1, 10);
         behind(ONE, "picks max(1,2,3);", 1, 13);
+        behind(ONE, "picks min;", 1, 9);
+        behind(ONE, "picks if;", 1, 8);
         behind(ONE, "picks if(1,2,3);", 1, 10);
         behind(ONE, "picks if(all,2);", 1, 14);
         behind(ONE, "picks a;", 1, 6);
@@ -637,6 +651,13 @@ public final class PromiseRuns {
         due("window 4", x.window(4), NONE);
         due("no act", x.has(15), 0);
         due("edge", x.has(6), 10);
+        // behind the first answer, at TICK 2, all the rest must go at once: EDGE is 10 + 99 then
+        String four = "path a delay 1;path b delay 1;path c delay 1;path d delay 1;"
+            + "join b at 0 token 17;join c at 0 token 17;join d at 0 token 17;";
+        begin("stream 109 unit 20 window 10 key 0;" + four);
+        due("window 5", x.window(5), 99);
+        begin("stream 110 unit 20 window 10 key 0;" + four);
+        due("window 5", x.window(5), NONE);
     }
 
     private static void odds() {
@@ -687,6 +708,9 @@ public final class PromiseRuns {
         due("delays", x.delays(0), 1022 - 2 - 4 - 8);
         due("meet", meet(3, 1, 0, 7, 0, 10), 2);
         due("delays", x.delays(0), 8);
+        due("meet", meet(9, 1, 0), 1);
+        due("delays", x.delays(0), 512);
+        due("tells 2", x.tells(0, 2), 1);
         due("meet", meet(0, 0, 1), 1);
         due("delays", x.delays(0), 0);
         due("tells", x.tells(0, 0), NONE);
@@ -814,6 +838,10 @@ public final class PromiseRuns {
         due("wrong", x.refusals(1), 1);
         due("dead", x.path(1, 2), 1);
         due("needed", x.later(5, 1), 10);
+        // 31 * 193 + 17 is 6000, so the token is 0
+        begin("stream 10 unit 5 window 10 key 193;path a delay 1;path b delay 2;");
+        due("token", x.join(1, 1), false);
+        due("token 0", x.join(1, 0), true);
     }
 
     private static void undoing() {
@@ -872,6 +900,11 @@ public final class PromiseRuns {
         due("the last", x.kept(39, 0), 2);
         due("its tick", x.kept(39, 2), 100);
         due("the one ahead", x.kept(38, 2), last);
+        x.undo();
+        due("kept", x.has(13), 40);
+        due("the oldest is back", x.kept(0, 0), 0);
+        due("the oldest is back", x.kept(0, 2), first);
+        due("the last", x.kept(39, 2), last);
     }
 
     private static void lastTick() {
@@ -912,6 +945,34 @@ public final class PromiseRuns {
         due("it could be sent", x.join(1, 17), true);
         due("but beyond 999", x.odds(0), NONE);
         due("finish", x.finish(), NONE);
+        lateJoin();
+    }
+
+    // With a delay of d, READ is 10 behind d + 1 TICKS, FINISHED behind 2 d + 1.
+    private static void lateJoin() {
+        begin(ONE + "path b delay 1;");
+        x.kill(0);
+        for (int k = 0; k < 9; k++) {
+            x.ticks(100);
+        }
+        x.ticks(96);
+        x.join(1, 17);
+        due("finish", x.finish(), 3);
+        due("without", x.without(0), 3);
+        due("alone", x.alone(1), 3);
+        due("window", x.window(3), 10);
+        due("tells 0", x.tells(1, 0), 3);
+        due("tells 1", x.tells(1, 1), 1);
+        due("tells 2", x.tells(1, 2), 7);
+        x.undo();
+        x.ticks(1);
+        x.join(1, 17);
+        due("finish", x.finish(), NONE);
+        due("without", x.without(0), NONE);
+        due("alone", x.alone(1), NONE);
+        due("tells 0", x.tells(1, 0), 2);
+        due("tells 1", x.tells(1, 1), 1);
+        due("tells 2", x.tells(1, 2), 8);
     }
 
     private static void status() {
