@@ -105,6 +105,27 @@ public final class EdgePromises extends Edges {
         x.end(ONE.length() - 1);
         due("stream", x.stream(), NONE);
         due("place", x.fault(1), ONE.length() - 1);
+        cut("stream 10 unit 5 window 1^0 key 0;", 4, 24);
+        cut("stream 10 unit 5 window 10^0 key 0;", 1, 26);
+        cut("stream 10 unit 5 windo^w 10 key 0;", 1, 17);
+        cut("stream 10 unit 5 window^s 10 key 0;", 1, 23);
+        cut("stream^ 10 unit 5 window 10 key 0;", 1, 6);
+        x = new PathStream();
+        tell(ONE);
+        x.feed(0x3c01c8ff, -1, -1, -1, -1);
+        x.end(3);
+        due("a row, whatever stood behind it", x.meet(), 1);
+    }
+
+    // What stands behind the sign ^ is on the tape no more.
+    private static void cut(String marked, int kind, int place) {
+        int length = marked.indexOf('^');
+        x = new PathStream();
+        tape(marked.replace("^", "").getBytes(StandardCharsets.ISO_8859_1));
+        x.end(length);
+        due("stream of " + marked, x.stream(), NONE);
+        due("fault of " + marked, x.fault(0), kind);
+        due("place in " + marked, x.fault(1), place);
     }
 
     // ---- promises 4 and 5
@@ -426,6 +447,7 @@ public final class EdgePromises extends Edges {
         due("two are left", x.segment(2, 2), NONE);
         begin(ONE);
         due("none flies yet", x.segment(0, 0), NONE);
+        segmentsLeft();
         says("9: 5 its SUM: all its bytes together modulo 251");
         // byte k is (k k + 7 k + key) mod 251: 0 8 18 30 44 | 60 78 98 120 144, both sides of 251 by the key
         begin(ONE);
@@ -442,6 +464,28 @@ public final class EdgePromises extends Edges {
         x.ticks(1);
         due("999", x.segment(0, 5), 246);
         lastSums();
+    }
+
+    private static void segmentsLeft() {
+        says("9: those that fly still, when others do no more");
+        begin("stream 17 unit 5 window 17 key 0;path a delay 1;path b delay 9;join b at 1 token 17;");
+        pass(3);
+        segmentRow(0, 1, 0, 10, 5, 1);
+        segmentRow(1, 1, 1, 15, 2, 1);
+        due("no more", x.segment(2, 0), NONE);
+        begin(ONE + "drops from=5;");
+        pass(3);
+        segmentRow(0, 0, 1, 5, 5, 0);
+        due("no more", x.segment(1, 0), NONE);
+        pass(4);
+        segmentRow(0, 0, 2, 5, 5, 6);
+        due("no more", x.segment(1, 0), NONE);
+    }
+
+    private static void segmentRow(int k, int... due) {
+        for (int what = 0; what < 5; what++) {
+            due("segment " + k + " " + what, x.segment(k, what), due[what]);
+        }
     }
 
     private static void lastSums() {

@@ -440,6 +440,19 @@ public final class EdgeTexts extends Edges {
         at(ONE + "drops not not not not not not not ^(1)<2;", 5);
         at(ONE + "drops not not not not not not not 1<^(2);", 5);
         at(ONE + "drops not[not[not[(^(1", 5);
+        says("I: seven open at once, with as much ahead of each as can be");
+        String full = "2";
+        for (int k = 0; k < 7; k++) {
+            full = "if(1<1 or 1=1 and 5=1+2*" + full + ",2,9)";
+        }
+        begin(ONE + "waits " + full + ";");
+        due("waits", x.path(0, 8), 2);
+        full = "2";
+        for (int k = 0; k < 7; k++) {
+            full = "if(1<1,9,1+1*" + full + "-1)";
+        }
+        begin(ONE + "waits " + full + ";");
+        due("waits", x.path(0, 8), 2);
         says("I: not until its FACT ends");
         good(ONE + "drops not not not not not not not 1<2 and not not not not not not not 1<2;", 3);
         good(ONE + "drops not not not not not not not 1<2 or (1)<2;", 3);

@@ -213,6 +213,16 @@ public final class EdgeTicks extends Edges {
         pass(2);
         due("b", x.path(1, 2), 1);
         due("wrong", x.refusals(1), 2);
+        begin("stream 17 unit 5 window 17 key 0;path a delay 1;path b delay 9;");
+        pass(1);
+        x.join(1, 17);
+        x.spoil(1);
+        pass(9);
+        due("it flies, those of a do no more", x.has(9), 2);
+        due("none is wrong yet", x.refusals(1), 0);
+        pass(1);
+        due("wrong", x.refusals(1), 1);
+        due("b", x.path(1, 2), 1);
         says("II: one after the other, as these reached the receiver");
         begin("stream 20 unit 5 window 20 key 0;path a delay 1;path b delay 1;path c delay 1;picks if(path=2,9,0-path);");
         x.join(1, 17);
@@ -733,6 +743,7 @@ public final class EdgeTicks extends Edges {
 
     private static void termsOfActs() {
         lastForty();
+        fortyOfTwo();
         draws();
         aheadWithoutDraws();
         manyCalls();
@@ -768,6 +779,27 @@ public final class EdgeTicks extends Edges {
         x.undo();
         keptRow(0, 0, 0, 84);
         keptRow(39, 0, 0, 162);
+    }
+
+    private static void fortyOfTwo() {
+        says("II: KEPT, the last 40 are told, each as it was when what came behind it is undone");
+        begin("stream 200 unit 1 window 99 key 0;path a delay 1;path b delay 1;path c delay 1;waits 1;");
+        x.join(1, 17);
+        x.kill(0);
+        pass(78);
+        due("40", x.has(13), 40);
+        keptRow(0, 2, 0, 0);
+        keptRow(1, 0, 1, 0);
+        pass(2);
+        keptRow(0, 0, 1, 0);
+        keptRow(39, 0, 1, 78);
+        x.join(2, 17);
+        x.kill(2);
+        keptRow(0, 0, 1, 2);
+        keptRow(39, 2, 2, 80);
+        x.undo();
+        keptRow(0, 0, 1, 0);
+        keptRow(39, 0, 1, 78);
     }
 
     private static void drawOnce(int seed, int loss, int lost, int next) {
