@@ -7,8 +7,8 @@ import java.util.Set;
 import java.util.TreeSet;
 
 /**
- * Random texts, most of them broken, read a second time by a reader that was written from Terms I alone
- * and shares no code with the class: the number of STATEMENTS, the FAULT and its place must be the same.
+ * Random texts, most of them broken, read a second time by a reader that shares no code with the class: the number of
+ * STATEMENTS, the FAULT and its place must be the same. What Terms I leave open is chosen in both as NOTES.md says.
  */
 public final class BrokenTexts {
     static final String OWN = "stream unit window key path delay join at token loss drops picks reads waits tick number from cwnd "
